@@ -7,6 +7,10 @@ public final class FilterTest {
         everyColumnAndValue();
         ownCellHasNoPart();
         wrongColumnsChangeNothing();
+        firstAndLastColumnAreRight();
+        rawBeyondAByte();
+        subtractionWraps();
+        storesRawNotTheAnswer();
         anyOrderAndAgain();
         due.end();
     }
@@ -49,15 +53,58 @@ public final class FilterTest {
     }
 
     private static void wrongColumnsChangeNothing() {
-        PaethFilter filter = new PaethFilter();
-        Rows.lay(filter, Rows.mixed());
-        for (int x : Rows.WRONG_COLUMNS) {
-            for (int raw : Rows.VALUES) {
-                String call = "filter(" + x + ", " + raw + ")";
-                due.is(call, filter.filter(x, raw), -1);
-                due.cells("after " + call, filter, Rows.mixed());
+        for (int[] cells : Rows.states()) {
+            PaethFilter filter = Rows.laid(cells);
+            for (int x : Rows.outside(7)) {
+                for (int raw : Rows.VALUES) {
+                    String call = "filter(" + x + ", " + raw + ")";
+                    due.is(call, filter.filter(x, raw), -1);
+                    due.cells("after " + call, filter, cells);
+                }
             }
         }
+    }
+
+    private static void firstAndLastColumnAreRight() {
+        PaethFilter filter = new PaethFilter();
+        due.is("filter(-1, 9)", filter.filter(-1, 9), -1);
+        due.is("filter(0, 9)", filter.filter(0, 9), 9);
+        due.is("filter(7, 8)", filter.filter(7, 8), 8);
+        due.is("filter(8, 9)", filter.filter(8, 9), -1);
+        due.cells("after the edges", filter, new int[] {9, 0, 0, 0, 0, 0, 0, 8, 0, 0, 0, 0, 0, 0, 0, 0});
+    }
+
+    private static void rawBeyondAByte() {
+        int[] raws = {255, 256, 257, 300, 512, -1, -2, -128, -255, -256, -257, Integer.MAX_VALUE, Integer.MIN_VALUE};
+        int[] wants = {255, 0, 1, 44, 0, 255, 254, 128, 1, 0, 255, 255, 0};
+        for (int k = 0; k < raws.length; k++) {
+            PaethFilter filter = new PaethFilter();
+            due.is("fresh filter(7, " + raws[k] + ")", filter.filter(7, raws[k]), wants[k]);
+            due.is("peek(7) of " + raws[k], filter.peek(7), wants[k]);
+        }
+    }
+
+    private static void subtractionWraps() {
+        for (int p = 1; p < 256; p++) {
+            PaethFilter filter = Rows.withFirstPredictor(p);
+            String under = " under predictor " + p;
+            due.is("filter(0, 0)" + under, filter.filter(0, 0), 256 - p);
+            due.is("filter(0, p - 1)" + under, filter.filter(0, p - 1), 255);
+            due.is("filter(0, p)" + under, filter.filter(0, p), 0);
+            due.is("filter(0, MIN_VALUE)" + under, filter.filter(0, Integer.MIN_VALUE), 256 - p);
+            due.is("peek(0) of MIN_VALUE", filter.peek(0), 0);
+            due.is("filter(0, MIN_VALUE + p - 1)" + under, filter.filter(0, Integer.MIN_VALUE + p - 1), 255);
+            due.is("filter(0, MIN_VALUE + p)" + under, filter.filter(0, Integer.MIN_VALUE + p), 0);
+            due.is("filter(0, MAX_VALUE)" + under, filter.filter(0, Integer.MAX_VALUE), 255 - p);
+            due.is("peek(0) of MAX_VALUE", filter.peek(0), 255);
+        }
+    }
+
+    private static void storesRawNotTheAnswer() {
+        PaethFilter filter = Rows.withFirstPredictor(100);
+        due.is("filter(0, 30) under predictor 100", filter.filter(0, 30), 186);
+        due.is("peek(0)", filter.peek(0), 30);
+        due.is("nextRow()", filter.nextRow(), 30);
     }
 
     private static void anyOrderAndAgain() {

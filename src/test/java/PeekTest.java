@@ -5,6 +5,8 @@ public final class PeekTest {
     public static void main(String[] args) {
         tellsBothRows();
         tellsUnsigned();
+        edgesOfBothRows();
+        fullCellIsNotARefusal();
         refusesOtherPlaces();
         changesNothing();
         due.end();
@@ -26,20 +28,30 @@ public final class PeekTest {
         }
     }
 
-    private static void refusesOtherPlaces() {
-        PaethFilter filter = new PaethFilter();
-        Rows.lay(filter, Rows.mixed());
-        for (int i = -300; i <= 300; i++) {
-            if (i < 0 || i > 15) {
-                due.is("peek(" + i + ")", filter.peek(i), -1);
-            }
-        }
-        for (int bit = 4; bit < 32; bit++) {
-            due.is("peek(1 << " + bit + ")", filter.peek(1 << bit), -1);
-            due.is("peek((1 << " + bit + ") + 15)", filter.peek((1 << bit) + 15), -1);
-        }
+    private static void edgesOfBothRows() {
+        PaethFilter filter = Rows.laid(new int[] {11, 1, 1, 1, 1, 1, 1, 22, 33, 2, 2, 2, 2, 2, 2, 44});
+        due.is("peek(-1)", filter.peek(-1), -1);
+        due.is("peek(0)", filter.peek(0), 11);
+        due.is("peek(7)", filter.peek(7), 22);
+        due.is("peek(8)", filter.peek(8), 33);
+        due.is("peek(15)", filter.peek(15), 44);
+        due.is("peek(16)", filter.peek(16), -1);
         due.is("peek(MAX_VALUE)", filter.peek(Integer.MAX_VALUE), -1);
         due.is("peek(MIN_VALUE)", filter.peek(Integer.MIN_VALUE), -1);
+    }
+
+    private static void fullCellIsNotARefusal() {
+        due.cells("full", Rows.laid(Rows.full()), Rows.full());
+    }
+
+    private static void refusesOtherPlaces() {
+        for (int[] cells : Rows.states()) {
+            PaethFilter filter = Rows.laid(cells);
+            for (int i : Rows.outside(15)) {
+                due.is("peek(" + i + ")", filter.peek(i), -1);
+                due.cells("after peek(" + i + ")", filter, cells);
+            }
+        }
     }
 
     private static void changesNothing() {

@@ -1,11 +1,8 @@
+import java.util.Arrays;
+import java.util.stream.IntStream;
+
 /** What several tests need to bring an object into a known state. */
 final class Rows {
-    /** Column numbers outside 0..7, those next to the edges and the most extreme ones. */
-    static final int[] WRONG_COLUMNS = {
-        -1, 8, -2, 9, 15, 16, -8, 255, 256, 1 << 16, -(1 << 16), Integer.MIN_VALUE, Integer.MIN_VALUE + 1,
-        Integer.MIN_VALUE + 7, Integer.MAX_VALUE, Integer.MAX_VALUE - 7
-    };
-
     /** Values about every edge of a byte and of an int. */
     static final int[] VALUES = {
         0, 1, 2, 127, 128, 129, 254, 255, 256, 257, 300, 511, 512, -1, -2, -127, -128, -129, -255, -256, -257,
@@ -13,6 +10,39 @@ final class Rows {
     };
 
     private Rows() {
+    }
+
+    /** Numbers outside 0..last: all those near, and those that a narrower number would take for a right one. */
+    static int[] outside(int last) {
+        IntStream near = IntStream.rangeClosed(-300, 300);
+        IntStream far = IntStream.range(8, 32).flatMap(
+            bit -> IntStream.rangeClosed(0, last).flatMap(i -> IntStream.of((1 << bit) + i, (1 << bit) - 1 - i)));
+        return IntStream.concat(near, far).filter(i -> i < 0 || i > last).distinct().toArray();
+    }
+
+    /** The states in which a refused call is tried: every cell empty, every cell full, all different. */
+    static int[][] states() {
+        return new int[][] {new int[16], full(), mixed()};
+    }
+
+    static PaethFilter laid(int[] cells) {
+        PaethFilter filter = new PaethFilter();
+        lay(filter, cells);
+        return filter;
+    }
+
+    static int[] full() {
+        int[] cells = new int[16];
+        Arrays.fill(cells, 255);
+        return cells;
+    }
+
+    /** An object whose first column has the predictor p: there a = c = 0, so the cell above is chosen. */
+    static PaethFilter withFirstPredictor(int p) {
+        PaethFilter filter = new PaethFilter();
+        filter.filter(0, p);
+        filter.nextRow();
+        return filter;
     }
 
     /** Lays prev and cur; filter stores the raw value, so the predictor has no part in it. */

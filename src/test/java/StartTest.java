@@ -34,6 +34,10 @@ public final class StartTest {
         other.unfilter(3, 9);
         other.nextRow();
         due.cells("first object", one, Rows.mixed());
+        one.filter(8, 1);
+        one.unfilter(-1, 1);
+        one.peek(16);
+        due.cells("other object after refused calls", other, new int[] {0, 0, 0, 9, 0, 0, 0, 0, 0, 0, 0, 9, 0, 0, 0, 0});
     }
 
     private static void laterObjectsStartAtZero() {
