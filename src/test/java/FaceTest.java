@@ -9,7 +9,7 @@ import java.util.TreeSet;
 public final class FaceTest {
     private static final Due due = new Due();
 
-    public static void main(String[] args) {
+    public static void main(String[] args) throws ReflectiveOperationException {
         due.holds("public final", Modifier.isPublic(modifiers()) && Modifier.isFinal(modifiers()));
         due.holds("no nested class", PaethFilter.class.getDeclaredClasses().length == 0);
         due.holds("no parent but Object", PaethFilter.class.getSuperclass() == Object.class);
@@ -17,6 +17,8 @@ public final class FaceTest {
         oneConstructor();
         methodsOfTheDocument();
         fieldsArePrivate();
+        rowIsEightBytes("prev", 8);
+        rowIsEightBytes("cur", 0);
         due.end();
     }
 
@@ -49,6 +51,17 @@ public final class FaceTest {
     private static void fieldsArePrivate() {
         for (Field field : PaethFilter.class.getDeclaredFields()) {
             due.holds(field + " is private", Modifier.isPrivate(field.getModifiers()));
+        }
+    }
+
+    private static void rowIsEightBytes(String name, int firstPlace) throws ReflectiveOperationException {
+        Field field = PaethFilter.class.getDeclaredField(name);
+        field.setAccessible(true);
+        due.holds(name + " is a byte[]", field.getType() == byte[].class);
+        byte[] row = (byte[]) field.get(Rows.laid(Rows.mixed()));
+        due.is("length of " + name, row.length, 8);
+        for (int k = 0; k < 8; k++) {
+            due.is(name + "[" + k + "]", row[k] & 0xFF, Rows.mixed()[firstPlace + k]);
         }
     }
 }
